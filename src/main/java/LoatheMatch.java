@@ -800,20 +800,20 @@ public final class LoatheMatch {
           }
         } else if (top > 1) {
           top--;
-          stack[top - 1] = join(step, stack[top - 1], stack[top]);
+          stack[top - 1] = keepWithin(join(step, stack[top - 1], stack[top]));
         }
       }
       return stack[0];
     }
 
-    private static int join(int step, int a, int b) {
+    private static long join(int step, long a, long b) {
       switch (step) {
         case Law.ADD:
-          return kept((long) a + b);
+          return a + b;
         case Law.LESS:
-          return kept((long) a - b);
+          return a - b;
         case Law.TIMES:
-          return kept((long) a * b);
+          return a * b;
         case Law.EQUAL:
           return a == b ? 1 : 0;
         case Law.BELOW:
@@ -827,8 +827,8 @@ public final class LoatheMatch {
       }
     }
 
-    private static int kept(long value) {
-      return (int) Math.max(-LIMIT, Math.min(LIMIT, value));
+    private static int keepWithin(long value) {
+      return value > LIMIT ? LIMIT : value < -LIMIT ? -LIMIT : (int) value;
     }
   }
 
@@ -1020,18 +1020,14 @@ public final class LoatheMatch {
       return rules.people - Integer.bitCount(life.who[t]) + 1;
     }
 
-    /** How rare a thing is if two people loathe it both, whether they do now or not. */
-    int rarityForBoth(int p, int q, int t) {
-      return rules.people - Integer.bitCount(life.who[t] | 1 << p | 1 << q) + 1;
-    }
-
-    /** The terms of two people, as if these were their lists. */
+    /** The terms of two people, as if these were their lists: what is on both counts these two as loathing it. */
     void measure(int p, int q, int listP, int listQ) {
       int both = listP & listQ;
+      int two = 1 << p | 1 << q;
       int rare = 0;
       for (int t = 0; t < rules.things; t++) {
         if ((both & 1 << t) != 0) {
-          rare += rarityForBoth(p, q, t);
+          rare += rules.people - Integer.bitCount(life.who[t] | two) + 1;
         }
       }
       int[] terms = couple.terms;
@@ -1440,11 +1436,15 @@ public final class LoatheMatch {
 
   /** Looks for the fewest things by which one fibs oneself good enough for another. */
   private static final class Fibs {
+    /** More than insult can be. */
+    private static final int EFFECT_OF_RARE = 64;
+
     private final World world;
     private int p;
     private int q;
     private int free;
-    /** Of each free thing the free ones ahead of it that do the same to good. */
+    private final int[] effects = new int[MAX_THINGS];
+    /** Of each thing the free ones ahead of it that have the same effect. */
     private final int[] alike = new int[MAX_THINGS];
     int found;
 
@@ -1457,6 +1457,7 @@ public final class LoatheMatch {
       q = other;
       free = (1 << world.rules.things) - 1 & ~world.life.list[p];
       for (int t = 0; t < MAX_THINGS; t++) {
+        effects[t] = effect(t);
         alike[t] = findAlike(t);
       }
       int most = Integer.bitCount(free);
@@ -1471,17 +1472,18 @@ public final class LoatheMatch {
     private int findAlike(int t) {
       int bits = 0;
       for (int u = 0; u < t; u++) {
-        if ((free & 1 << u) != 0 && effect(u) == effect(t)) {
+        if ((free & 1 << u) != 0 && effects[u] == effects[t]) {
           bits |= 1 << u;
         }
       }
       return bits;
     }
 
-    /** What taking up a thing does to the terms: twice the rare it brings, and 1 if it insults. */
+    /** What rare and insult become by taking up a thing; common and lists follow from that. */
     private int effect(int t) {
-      int insult = world.rules.traits[q] >> t & 1;
-      return (world.life.has(q, t) ? 2 * world.rarityForBoth(p, q, t) : 0) + insult;
+      world.measure(p, q, world.life.list[p] | 1 << t, world.life.list[q]);
+      int[] terms = world.couple.terms;
+      return EFFECT_OF_RARE * terms[Couple.RARE] + terms[Couple.INSULT];
     }
 
     /**
