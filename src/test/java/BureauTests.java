@@ -42,6 +42,25 @@ public final class BureauTests {
     checks.due("room", x.count(5), 5);
     checks.due("bar is told no more", x.count(4), 10);
     checks.due("what is behind is gone", x.feed(0, 0, 0, 0, 0), 20);
+    checks.due("bureau(0)", x.bureau(0), 0);
+    checks.due("empties THE TAPE", x.count(7), 0);
+    checks.due("bureau(0) of an empty TAPE", x.bureau(0), 0);
+    Checks.feed(x, "bar 12;");
+    checks.due("a number is cut", x.bureau(5), -32);
+    checks.due("where the text ends", x.fault(1), 5);
+    Checks.feed(x, "bar 1234;");
+    checks.due("what is cut off is no digit", x.bureau(6), -32);
+    checks.due("where the text ends", x.fault(1), 6);
+    Checks.feed(x, "thinga");
+    checks.due("a word is cut", x.bureau(5), -32);
+    checks.due("where the text ends", x.fault(1), 5);
+    checks.due("900 bytes, a word at the end", Checks.tell(x, " ".repeat(895) + "thing"), -32);
+    checks.due("at 900", x.fault(1), 900);
+    checks.due("900 bytes, a number at the end", Checks.tell(x, " ".repeat(895) + "bar 1"), -32);
+    checks.due("at 900", x.fault(1), 900);
+    checks.due("900 bytes of a law", Checks.tell(x, "good:" + "1+".repeat(446) + "1 ;"), 1);
+    checks.due("with two more", Checks.tell(x, "person age 1;person age 1;good:" + "1+".repeat(433) + "1;"), 3);
+    checks.due("GOOD by a long law", x.good(0, 1), 434);
   }
 
   private void reading() {
@@ -66,6 +85,24 @@ public final class BureauTests {
     checks.due("nobody wed", x.person(0, 3), -1);
     checks.due("LISTS as told", x.person(0, 2), 6);
     checks.due("since told", x.since(0, 1), 0);
+    Checks.tell(x, "good : 7;may : 1 = 2;room 2;bar 5;thing;person age 5 is 0 loathes 0;person age 6 is 0 loathes 0;");
+    checks.due("a law", x.good(0, 1), 7);
+    Checks.tell(x, "thing;person age 5;person age 6;");
+    checks.due("nothing of an elder text: good", x.good(0, 1), 0);
+    checks.due("nothing of an elder text: may", x.may(0, 1), 1);
+    checks.due("nothing of an elder text: bar", x.count(4), 10);
+    checks.due("nothing of an elder text: room", x.count(5), 14);
+    checks.due("nothing of an elder text: is", x.person(0, 1), 0);
+    checks.due("nothing of an elder text: LIST", x.person(0, 2), 0);
+    checks.due("nothing of an elder text: who", x.thing(0, 1), 0);
+    checks.due("nothing of an elder text: LISTS", x.count(9), 0);
+    Checks.tell(x, "hate;");
+    checks.due("a fault", x.fault(1), 0);
+    checks.due("the fault stays", x.bureau(99), -3);
+    checks.due("the fault stays", x.fault(0), 2);
+    Checks.tell(x, "bar 1;");
+    checks.due("no fault any more", x.fault(0), 0);
+    checks.due("no place", x.fault(1), -1);
   }
 
   private void fault(String text, int kind, int place) {
@@ -101,6 +138,13 @@ public final class BureauTests {
     fault("bar 1;;", 2, 6);
     fault("bars 1;", 2, 0);
     fault("ba r 1;", 2, 0);
+    fault("far 1;", 2, 0);
+    fault("z;", 2, 0);
+    fault("a;", 2, 0);
+    fault("bar 9;`", 1, 6);
+    fault("bar 9;{", 1, 6);
+    fault("bar 9;/", 1, 6);
+    fault("bar 0;:", 2, 6);
     fault("room 15,", 3, 5);
     fault("room 15 1000;", 3, 5);
     fault("thing;person age 1 is 1,", 3, 22);
@@ -199,6 +243,8 @@ public final class BureauTests {
     checks.due("RARE 0", x.thing(0, 2), 4);
     checks.due("RARE 2", x.thing(2, 2), 2);
     checks.due("who are it", x.thing(0, 3), 9);
+    checks.due("who are it", x.thing(3, 3), 4);
+    checks.due("nobody is it", x.thing(1, 3), 0);
     checks.due("thing(0, 4)", x.thing(0, 4), -2);
     checks.due("thing(0, -1)", x.thing(0, -1), -2);
     checks.due("thing(4, 0)", x.thing(4, 0), -2);

@@ -148,12 +148,16 @@ public final class DeedTests {
     checks.due("undo(2)", x.undo(2), 0);
     checks.due("as a whole", x.count(2) + x.count(3), 0);
     long[][] cant = {{4, 1}, {8, 1}, {99, 1}, {400, 1}, {0, 1}, {303, 1}, {999, 1}, {1004, 1}, {1400, 1}, {2000, 1},
-        {2004, 1}, {2400, 1}, {3000, 1}, {-2, 1}, {5000000001L, 1}, {Long.MIN_VALUE, 1}, {3, 3}, {100, 0}, {2001, 0}};
+        {2004, 1}, {2400, 1}, {3000, 1}, {3001, 1}, {1L << 32 | 1, 1}, {-99, 1}, {-2, 1}, {5000000001L, 1}, {Long.MIN_VALUE, 1}, {3, 3}, {100, 0}, {2001, 0}};
     for (long[] deed : cant) {
       x.numbers(2, 3, 1);
       x.write(2, 0, deed[0]);
       checks.due("why of " + deed[0], x.judge(2, 1), deed[1]);
     }
+    Checks.fill(x, 3, 2301);
+    checks.due("a COPY in a TRAY", x.perform(3), 1);
+    checks.due("the LIST", x.person(3, 2), 14);
+    x.undo(1);
     Checks.fill(x, 3, 1, 102);
     checks.due("wed to another", x.judge(3, 1), 2);
     Checks.fill(x, 3, 1100, 1103, 1100);
@@ -193,10 +197,32 @@ public final class DeedTests {
       seed = seed * 31 + 17;
     }
     checks.due("all kinds", kinds, 15);
+    drawsByThings();
     int done = x.season(77, 40);
     checks.due("a long one", done > 0 && done <= 40 ? 1 : 0, 1);
     checks.due("is one call", x.undo(1), 0);
     checks.due("all as it was", x.count(2) + x.count(3) + x.count(9), 8);
+  }
+
+  /** With fewer things than people, and more, a draw shows by which it was taken. */
+  private void drawsByThings() {
+    String[] texts = {"thing;thing;" + "person age 1;".repeat(7), "thing;".repeat(13) + "person age 1;person age 1;"};
+    int[] things = {2, 13};
+    int[] people = {7, 2};
+    for (int i = 0; i < 2; i++) {
+      int taken = 0;
+      for (int seed = 0; seed < 200 && taken < 10; seed++) {
+        if (next(seed) % 4 == 2) {
+          taken++;
+          LoatheMatch y = Checks.of(texts[i]);
+          y.season(seed, 1);
+          int p = next(step(seed)) % people[i];
+          int t = next(step(step(seed))) % things[i];
+          checks.due("season(" + seed + ", 1): LIST of " + p, y.person(p, 2), 1 << t);
+        }
+      }
+      checks.due("seeds that take up", taken, 10);
+    }
   }
 
   private static int step(int x) {
@@ -232,6 +258,10 @@ public final class DeedTests {
     checks.due("64 bits", x.write(1, 0, Long.MIN_VALUE), Long.MIN_VALUE);
     x.numbers(1, 3, 1);
     checks.due("all 0: both one", x.judge(1, 1), 1);
+    x.write(1, 0, -1);
+    checks.due("a YEAR", x.judge(1, 1), 0);
+    x.numbers(1, 3, 1);
+    checks.due("all 0 anew", x.judge(1, 1), 1);
   }
 
   private void listsInTrays() {
@@ -246,6 +276,12 @@ public final class DeedTests {
     x.numbers(2, 2, 5);
     x.write(2, 4, 7);
     checks.due("three PEOPLE", x.lists(2), 3);
+    Checks.fill(x, 1, 1, 1, 1, -1);
+    x.lists(1);
+    // LISTS 1, 8450 and 0; behind them the YEAR stays
+    x.write(1, 1, -1);
+    x.write(1, 2, 1);
+    checks.due("places behind stay", x.judge(1, 0), -1);
     // A tray is read back by what its deeds do: LIST 1 as a number of a deed is WED 0 and 1, LIST 0 is nobody.
     x.numbers(3, 2, 1);
     x.lists(3);

@@ -51,6 +51,10 @@ public final class MatchTests {
     LoatheMatch pairs = Checks.of("thing;person age 1 loathes 0;person age 2;person age 3;person age 4 loathes 0;"
         + "good : 5 - insult;may : apart < 3;");
     checks.due("more pairs ahead of GOOD", pairs.most(0), 2);
+    LoatheMatch alone = Checks.of("person age 1;person age 3;person age 4;may : apart < 3;good : 9 - apart;");
+    seats("alone for more GOOD", new int[] {alone.most(10), alone.most(11), alone.most(12)}, -1, 2, 1);
+    checks.due("its pairs", alone.most(0), 1);
+    checks.due("its GOOD", alone.most(1), 8);
     LoatheMatch below = Checks.of("person age 1;person age 1;good : 0 - 999;");
     checks.due("a bad pair is a pair", below.most(0), 1);
     checks.due("its GOOD", below.most(1), -999);
@@ -78,6 +82,19 @@ public final class MatchTests {
     checks.due("no more GOOD, no break", like.breaks(), -1);
     like.part(0);
     checks.due("both must rather", like.breaks(), 3);
+    LoatheMatch rather = Checks.of("person age 1;person age 3;person age 4;person age 6;good : 9 - apart;");
+    seats("the first that is STABLE", new int[] {rather.stable(10), rather.stable(11), rather.stable(12), rather.stable(13)},
+        3, 2, 1, 0);
+    checks.due("its GOOD", rather.stable(1), 12);
+    LoatheMatch even = Checks.of("person age 5;person age 3;person age 7;person age 12;good : 9 - apart;");
+    even.wed(0, 1);
+    even.wed(2, 3);
+    checks.due("0 has as much: no break", even.breaks(), -1);
+    even.part(0);
+    even.part(2);
+    even.wed(0, 2);
+    even.wed(1, 3);
+    checks.due("0 has as much by 1: no break", even.breaks(), -1);
     LoatheMatch notMay = Checks.of("person age 1;person age 2;may : year = 0;");
     notMay.wed(0, 1);
     notMay.years(1);
@@ -223,6 +240,12 @@ public final class MatchTests {
     checks.due("the least set", least.fib(0, 1, 1), 40);
     LoatheMatch insult = Checks.of("thing;thing;bar 1;person age 1;person age 1 is 0;good : insult;");
     checks.due("an insult helps", insult.fib(0, 1, 1), 1);
+    LoatheMatch liar = Checks.of("thing;thing;bar 2;person age 1 loathes 0 1;person age 1 loathes 1;person age 1;good : common;");
+    checks.due("of 1 to 0", liar.fib(1, 0, 1), 1);
+    checks.due("of 2 to 0", liar.fib(2, 0, 1), 3);
+    checks.due("of 0 to 2", liar.fib(0, 2, 1), -1);
+    LoatheMatch longer = Checks.of("thing;thing;thing;bar 3;person age 1 loathes 1;person age 1;good : lists;");
+    checks.due("not what is on the LIST", longer.fib(0, 1, 1), 5);
     checks.due("nobody is any", insult.fib(1, 0, 0), -1);
     LoatheMatch rarest = Checks.of("thing;thing;thing;bar 3;person age 1;person age 1 loathes 0 1 2;person age 1 loathes 0;"
         + "person age 1 loathes 0 1;");
@@ -264,6 +287,9 @@ public final class MatchTests {
     checks.due("an empty LIST: nobody", pieces.pieced(4, 0), 0);
     checks.due("an empty LIST: nobody", pieces.pieced(4, 1), 0);
     checks.due("just the LIST", pieces.pieced(1, 0), -1);
+    LoatheMatch alike = Checks.of("thing;person age 1 loathes 0;person age 1 loathes 0;person age 1 loathes 0;");
+    checks.due("the least set", alike.pieced(0, 1), 2);
+    checks.due("the least set", alike.pieced(2, 1), 1);
   }
 
   private void children() {
@@ -294,6 +320,12 @@ public final class MatchTests {
     checks.due("biggest(1, 1)", x.biggest(1, 1), 7);
     checks.due("biggest(0, 1)", x.biggest(0, 1), 15);
     checks.due("biggest(3, 1)", x.biggest(3, 1), 2);
+    LoatheMatch all = Checks.of("thing;thing;person age 1 loathes 0 1;person age 1 loathes 0;");
+    checks.due("all of them", all.houses(2, 1), 1);
+    checks.due("0 alone", all.houses(1, 2), 1);
+    checks.due("0 alone", all.biggest(2, 1), 1);
+    checks.due("houses(8, 14)", x.houses(8, 14), 0);
+    checks.due("biggest(14, 0)", x.biggest(14, 0), 0);
     checks.due("biggest(4, 0)", x.biggest(4, 0), 0);
     checks.due("biggest(4, 1)", x.biggest(4, 1), 0);
     checks.due("biggest(15, 0)", x.biggest(15, 0), -3);
@@ -314,6 +346,9 @@ public final class MatchTests {
     self.takes(1, 0);
     checks.due("peace()", self.peace(), 1);
     checks.due("angry()", self.angry(), 2);
+    LoatheMatch first = Checks.of("thing;person age 1 loathes 0;person age 2 is 0;");
+    checks.due("0 is angry", first.angry(), 1);
+    checks.due("peace()", first.peace(), 1);
     checks.due("of nobody", new LoatheMatch().peace() + new LoatheMatch().angry(), 0);
   }
 
