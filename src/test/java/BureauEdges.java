@@ -25,6 +25,14 @@ final class BureauEdges {
     return x;
   }
 
+  /** A bureau in use, and 900 bytes on the tape, of a fault at the last. */
+  private static LoatheMatch fullTape() {
+    LoatheMatch x = Checks.of(TEXT);
+    x.wed(0, 1);
+    Checks.feed(x, " ".repeat(899) + ",");
+    return x;
+  }
+
   void run() {
     newObject();
     feed();
@@ -97,6 +105,7 @@ final class BureauEdges {
     }
     edges.due("feed 46", full.feed(0x62617220, 0x373b2020, 0, 0, 0), -5);
     edges.due("feed 47", full.feed(0, 0, 0, 0, 0), -5);
+    edges.refused(BureauEdges::fullTape, "feed of more", o -> o.feed(0x62617220, 0x373b2020, 0, 0, 0), -5);
     edges.due("THE TAPE stays", full.count(7), 900);
     edges.due("with its bytes", full.bureau(900) * 10 + full.count(4), 10);
     edges.due("room again", full.feed(0, 0, 0, 0, 0), 20);
@@ -115,6 +124,11 @@ final class BureauEdges {
     edges.due("no YEARS gone by", x.count(2), 0);
     edges.due("no THINGS of the elder text", x.count(0) + x.count(9), 0);
     edges.due("room of the elder text is gone", x.count(5), 14);
+    Checks.tell(x, "good : 5;thing;person age 1 is 0 loathes 0;person age 1 is 0 loathes 0;");
+    Checks.tell(x, "thing;person age 1;person age 1;");
+    edges.due("the elder good is gone", x.good(0, 1), 0);
+    edges.due("who LOATHED and were a THING of the elder text", x.thing(0, 1) + x.thing(0, 3) + x.count(9), 0);
+    Checks.tell(x, "may : 1 = 2;");
     edges.due("the elder may is gone", Checks.tell(x, "person age 1;person age 99;") * 10 + x.may(0, 1), 21);
 
     edges.promise(3, "how many LINES (all stays with a FAULT).");
@@ -179,7 +193,7 @@ final class BureauEdges {
   }
 
   private void person() {
-    edges.promise(5, "Of a PERSON, what 0: AGE, 1: THINGS it is, 2: its LIST (as bits), 3: whom it is wed to (NONE). -2.");
+    edges.promise(5, "Of a PERSON, what 0: AGE, 1: THINGS it is, 2: its LIST (as bits), 3: whom it is wed to (NONE).");
     LoatheMatch x = Checks.of(TEXT);
     edges.due("AGE", x.person(4, 0), 90);
     edges.due("is none", x.person(4, 1), 0);
@@ -190,20 +204,24 @@ final class BureauEdges {
     x.wed(1, 0);
     edges.due("wed to 1", x.person(0, 3), 1);
     edges.due("wed to 0", x.person(1, 3), 0);
+
+    edges.promise(5, "-2.");
     for (int p : new int[] {-1, 5, 8, MIN, MAX}) {
-      edges.due("person(" + p + ", 0)", x.person(p, 0), -2);
+      edges.refused(BureauEdges::start, "person(" + p + ", 0)", o -> o.person(p, 0), -2);
     }
     for (int what : new int[] {-1, 4, MIN, MAX}) {
-      edges.due("person(0, " + what + ")", x.person(0, what), -2);
+      edges.refused(BureauEdges::start, "person(0, " + what + ")", o -> o.person(0, what), -2);
     }
   }
 
   private void since() {
-    edges.promise(6, "For how many YEARS a PERSON has LOATHED a THING. NONE: it doesn't; -2.");
+    edges.promise(6, "For how many YEARS a PERSON has LOATHED a THING.");
     LoatheMatch x = Checks.of(TEXT);
     edges.due("0 at first", x.since(0, 1), 0);
     x.years(2);
     edges.due("2", x.since(0, 1), 2);
+
+    edges.promise(6, "NONE: it doesn't;");
     x.years(1);
     edges.due("waned", x.since(0, 1), -1);
     edges.due("it never did", x.since(4, 0), -1);
@@ -211,15 +229,17 @@ final class BureauEdges {
     edges.due("GIVEN UP", x.since(0, 2), -1);
     x.takes(0, 2);
     edges.due("TAKEN UP anew", x.since(0, 2), 0);
+
+    edges.promise(6, "-2.");
     for (int bad : new int[] {-1, 5, 14, MIN, MAX}) {
-      edges.due("since(" + bad + ", 0)", x.since(bad, 0), -2);
-      edges.due("since(0, " + bad + ")", x.since(0, bad), -2);
+      edges.refused(BureauEdges::start, "since(" + bad + ", 0)", o -> o.since(bad, 0), -2);
+      edges.refused(BureauEdges::start, "since(0, " + bad + ")", o -> o.since(0, bad), -2);
     }
-    edges.due("since(0, 4)", x.since(0, 4), -2);
+    edges.refused(BureauEdges::start, "since(0, 4)", o -> o.since(0, 4), -2);
   }
 
   private void thing() {
-    edges.promise(7, "Of a THING, what 0: wanes (0: never), 1: who LOATHE it, as bits, 2: RARE, 3: who are it, as bits. -2.");
+    edges.promise(7, "Of a THING, what 0: wanes (0: never), 1: who LOATHE it, as bits, 2: RARE, 3: who are it, as bits.");
     LoatheMatch x = Checks.of(TEXT);
     edges.due("wanes", x.thing(1, 0), 3);
     edges.due("never", x.thing(3, 0), 0);
@@ -230,17 +250,20 @@ final class BureauEdges {
     x.years(3);
     edges.due("nobody LOATHES it", x.thing(1, 1), 0);
     edges.due("RARE of it", x.thing(1, 2), 6);
-    for (int bad : new int[] {-1, 4, 14, MIN, MAX}) {
-      edges.due("thing(" + bad + ", 0)", x.thing(bad, 0), -2);
-      edges.due("thing(0, " + bad + ")", x.thing(0, bad), -2);
-    }
     LoatheMatch all = Checks.of("thing;".repeat(14) + "person age 1 is 13 loathes 13;".repeat(8));
     edges.due("all LOATHE the last", all.thing(13, 1), 255);
     edges.due("all are the last", all.thing(13, 3), 255);
+
+    edges.promise(7, "-2.");
+    for (int bad : new int[] {-1, 4, 14, MIN, MAX}) {
+      edges.refused(BureauEdges::start, "thing(" + bad + ", 0)", o -> o.thing(bad, 0), -2);
+      edges.refused(BureauEdges::start, "thing(0, " + bad + ")", o -> o.thing(0, bad), -2);
+    }
   }
 
   private void pair() {
-    edges.promise(8, "Of two PEOPLE, what 0: common (how many), 1: rare, 2: insult, 3: lists, 4: apart, 5: THINGS both LOATHE, as bits.");
+    edges.promise(8, "Of two PEOPLE, what 0: common (how many), 1: rare, 2: insult, 3: lists, 4: apart, "
+        + "5: THINGS both LOATHE, as bits.");
     LoatheMatch x = Checks.of(TEXT);
     int[] due = {1, 3, 1, 4, 5, 4};
     int[] none = {0, 0, 0, 2, 70, 0};
@@ -252,35 +275,37 @@ final class BureauEdges {
 
     edges.promise(8, "-8: no such PERSON, both one, what.");
     for (int bad : new int[] {-1, 5, 8, MIN, MAX}) {
-      edges.due("pair(" + bad + ", 0, 0)", x.pair(bad, 0, 0), -8);
-      edges.due("pair(0, " + bad + ", 5)", x.pair(0, bad, 5), -8);
-      edges.due("pair(" + bad + ", " + bad + ", 5)", x.pair(bad, bad, 5), -8);
+      edges.refused(BureauEdges::start, "pair(" + bad + ", 0, 0)", o -> o.pair(bad, 0, 0), -8);
+      edges.refused(BureauEdges::start, "pair(0, " + bad + ", 5)", o -> o.pair(0, bad, 5), -8);
+      edges.refused(BureauEdges::start, "pair(" + bad + ", " + bad + ", 5)", o -> o.pair(bad, bad, 5), -8);
     }
     for (int p = 0; p < 5; p++) {
       edges.due("pair(" + p + ", " + p + ", 5)", x.pair(p, p, 5), -8);
     }
     for (int what : new int[] {-1, 6, MIN, MAX}) {
-      edges.due("pair(0, 1, " + what + ")", x.pair(0, 1, what), -8);
+      edges.refused(BureauEdges::start, "pair(0, 1, " + what + ")", o -> o.pair(0, 1, what), -8);
     }
   }
 
   private void good() {
-    edges.promise(9, "GOOD. -2,000,000: no such PERSON, both one.");
+    edges.promise(9, "GOOD.");
     LoatheMatch x = Checks.of(TEXT);
     edges.due("good(0, 1)", x.good(0, 1), 7);
     edges.due("good(1, 0)", x.good(1, 0), 7);
     edges.due("of two who MAY not", x.good(0, 4), 0);
+
+    edges.promise(9, "-2,000,000: no such PERSON, both one.");
     for (int bad : new int[] {-1, 5, 8, MIN, MAX}) {
-      edges.due("good(" + bad + ", 0)", x.good(bad, 0), -2000000);
-      edges.due("good(0, " + bad + ")", x.good(0, bad), -2000000);
-      edges.due("good(" + bad + ", " + bad + ")", x.good(bad, bad), -2000000);
+      edges.refused(BureauEdges::start, "good(" + bad + ", 0)", o -> o.good(bad, 0), -2000000);
+      edges.refused(BureauEdges::start, "good(0, " + bad + ")", o -> o.good(0, bad), -2000000);
+      edges.refused(BureauEdges::start, "good(" + bad + ", " + bad + ")", o -> o.good(bad, bad), -2000000);
     }
-    edges.due("good(4, 4)", x.good(4, 4), -2000000);
-    edges.due("good(0, 0)", x.good(0, 0), -2000000);
+    edges.refused(BureauEdges::start, "good(4, 4)", o -> o.good(4, 4), -2000000);
+    edges.refused(BureauEdges::start, "good(0, 0)", o -> o.good(0, 0), -2000000);
   }
 
   private void may() {
-    edges.promise(10, "Whether they MAY marry: 1, 0. -2: no such PERSON, both one.");
+    edges.promise(10, "Whether they MAY marry: 1, 0.");
     LoatheMatch x = Checks.of(TEXT);
     edges.due("15 apart", x.may(2, 3), 1);
     edges.due("the other way", x.may(3, 2), 1);
@@ -288,12 +313,14 @@ final class BureauEdges {
     edges.due("the other way", x.may(3, 0), 0);
     x.wed(0, 1);
     edges.due("though they are wed", x.may(0, 1), 1);
+
+    edges.promise(10, "-2: no such PERSON, both one.");
     for (int bad : new int[] {-1, 5, 8, MIN, MAX}) {
-      edges.due("may(" + bad + ", 0)", x.may(bad, 0), -2);
-      edges.due("may(0, " + bad + ")", x.may(0, bad), -2);
-      edges.due("may(" + bad + ", " + bad + ")", x.may(bad, bad), -2);
+      edges.refused(BureauEdges::start, "may(" + bad + ", 0)", o -> o.may(bad, 0), -2);
+      edges.refused(BureauEdges::start, "may(0, " + bad + ")", o -> o.may(0, bad), -2);
+      edges.refused(BureauEdges::start, "may(" + bad + ", " + bad + ")", o -> o.may(bad, bad), -2);
     }
-    edges.due("may(4, 4)", x.may(4, 4), -2);
-    edges.due("may(0, 0)", x.may(0, 0), -2);
+    edges.refused(BureauEdges::start, "may(4, 4)", o -> o.may(4, 4), -2);
+    edges.refused(BureauEdges::start, "may(0, 0)", o -> o.may(0, 0), -2);
   }
 }

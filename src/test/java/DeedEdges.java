@@ -53,14 +53,18 @@ final class DeedEdges {
   }
 
   private void part() {
-    edges.promise(12, "PARTED: 0. -2: no such PERSON; -5: it isn't wed.");
+    edges.promise(12, "PARTED: 0.");
     LoatheMatch x = start();
     edges.due("part(1)", x.part(1), 0);
     edges.due("both are", x.person(0, 3) + x.person(1, 3), -2);
     edges.due("pairs", x.count(3), 0);
+
+    edges.promise(12, "-2: no such PERSON;");
     for (int bad : new int[] {-1, 5, MIN, MAX}) {
       edges.refused(DeedEdges::start, "part(" + bad + ")", o -> o.part(bad), -2);
     }
+
+    edges.promise(12, "-5: it isn't wed.");
     edges.refused(DeedEdges::start, "part(2)", o -> o.part(2), -5);
     edges.due("a second time", x.part(1), -5);
     edges.due("by the other one", x.part(0), -5);
@@ -85,7 +89,7 @@ final class DeedEdges {
   }
 
   private void copies() {
-    edges.promise(14, "p COPIES q: how many are on the LIST. -11.");
+    edges.promise(14, "p COPIES q: how many are on the LIST.");
     LoatheMatch x = fresh();
     x.years(2);
     edges.due("by an empty one", x.copies(4, 1), 3);
@@ -93,6 +97,8 @@ final class DeedEdges {
     edges.due("YEARS", x.since(4, 1), 2);
     edges.due("of an empty one", x.copies(4, 0) * 10 + x.copies(0, 3), 21);
     edges.due("alike: it is done", x.copies(0, 3) * 10 + x.count(6), 15);
+
+    edges.promise(14, "-11.");
     for (int bad : new int[] {-1, 5, MIN, MAX}) {
       edges.refused(DeedEdges::start, "copies(" + bad + ", 0)", o -> o.copies(bad, 0), -11);
       edges.refused(DeedEdges::start, "copies(0, " + bad + ")", o -> o.copies(0, bad), -11);
@@ -101,7 +107,7 @@ final class DeedEdges {
   }
 
   private void years() {
-    edges.promise(15, "n YEARS (1 to 60): how many THINGS waned in all. -3.");
+    edges.promise(15, "n YEARS (1 to 60): how many THINGS waned in all.");
     LoatheMatch x = fresh();
     edges.due("none", x.years(2), 0);
     edges.due("by two PEOPLE", x.years(1), 2);
@@ -113,13 +119,15 @@ final class DeedEdges {
     LoatheMatch anew = Checks.of("thing wanes 2;person age 1 loathes 0;person age 1;");
     anew.wed(0, 1);
     edges.due("from one to the other and back", anew.years(4), 3);
+
+    edges.promise(15, "-3.");
     for (int bad : new int[] {0, -1, 61, MIN, MAX}) {
       edges.refused(DeedEdges::start, "years(" + bad + ")", o -> o.years(bad), -3);
     }
   }
 
   private void undo() {
-    edges.promise(16, "n calls (1 to 8) are UNDONE: how many still can be. -3: n, more than can be.");
+    edges.promise(16, "n calls (1 to 8) are UNDONE: how many still can be.");
     LoatheMatch x = start();
     edges.due("one of two", x.undo(1), 1);
     edges.due("the latest", x.count(2) * 10 + x.count(3), 1);
@@ -133,6 +141,8 @@ final class DeedEdges {
     edges.due("9 of 8", eight.undo(9), -3);
     edges.due("7 of 8", eight.undo(7), 1);
     edges.due("LIST", eight.person(4, 2), 1);
+
+    edges.promise(16, "-3: n, more than can be.");
     for (int bad : new int[] {0, -1, 3, 8, 9, MIN, MAX}) {
       edges.refused(DeedEdges::start, "undo(" + bad + ")", o -> o.undo(bad), -3);
     }
@@ -176,18 +186,20 @@ final class DeedEdges {
     x.numbers(0, 0, 0);
     judged(x, -1, 0, 2, 7);
 
-    edges.promise(17, "-2: the TRAY, what; -6.");
+    edges.promise(17, "-2: the TRAY, what;");
     for (int bad : new int[] {-1, 4, MIN, MAX}) {
       edges.refused(DeedEdges::start, "judge(" + bad + ", 0)", o -> o.judge(bad, 0), -2);
       edges.refused(DeedEdges::start, "judge(0, " + bad + ")", o -> o.judge(0, bad), -2);
     }
+
+    edges.promise(17, "-6.");
     edges.refused(DeedEdges::start, "judge(2, 0)", o -> o.judge(2, 0), -6);
     edges.refused(DeedEdges::start, "judge(3, 3)", o -> o.judge(3, 3), -6);
     edges.refused(DeedEdges::start, "judge(0, 0), which is no refusal", o -> o.judge(0, 0), -1);
   }
 
   private void perform() {
-    edges.promise(18, "They are done, till one can't be: how many. -2; -6.");
+    edges.promise(18, "They are done, till one can't be: how many.");
     LoatheMatch x = fresh();
     Checks.fill(x, 0, 1, -1, 0, -1);
     edges.due("till the third", x.perform(0), 2);
@@ -203,15 +215,19 @@ final class DeedEdges {
       x.write(0, i, -1);
     }
     edges.due("40", x.perform(0) + x.count(2), 80);
+
+    edges.promise(18, "-2;");
     for (int bad : new int[] {-1, 4, MIN, MAX}) {
       edges.refused(DeedEdges::start, "perform(" + bad + ")", o -> o.perform(bad), -2);
     }
+
+    edges.promise(18, "-6.");
     edges.refused(DeedEdges::start, "perform(2)", o -> o.perform(2), -6);
     edges.refused(DeedEdges::start, "perform(1) of none", o -> o.perform(1), 0);
   }
 
   private void season() {
-    edges.promise(19, "A YEAR by a SEED: how many could be. -3: how many times; -5: no THINGS, no PEOPLE.");
+    edges.promise(19, "A YEAR by a SEED: how many could be.");
     LoatheMatch one = Checks.of("thing;person age 1;");
     int could = 0;
     long x = 5;
@@ -225,9 +241,13 @@ final class DeedEdges {
     }
     edges.due("of one PERSON and one THING", one.season(5, 40), could);
     edges.due("is one call", one.count(6), 1);
+
+    edges.promise(19, "-3: how many times;");
     for (int bad : new int[] {0, -1, 41, MIN, MAX}) {
       edges.refused(DeedEdges::start, "season(5, " + bad + ")", o -> o.season(5, bad), -3);
     }
+
+    edges.promise(19, "-5: no THINGS, no PEOPLE.");
     edges.refused(LoatheMatch::new, "season(5, 1)", o -> o.season(5, 1), -5);
     edges.refused(LoatheMatch::new, "season(5, 41)", o -> o.season(5, 41), -3);
     edges.refused(() -> Checks.of("person age 1;person age 1;"), "season(5, 40)", o -> o.season(5, 40), -5);
@@ -237,6 +257,7 @@ final class DeedEdges {
       seed++;
     }
     int none = seed;
-    edges.refused(() -> Checks.of("thing;person age 1;"), "season(" + seed + ", 1), which could do none", o -> o.season(none, 1), 0);
+    edges.refused(() -> Checks.of("thing;person age 1;"), "season(" + seed + ", 1), which could do none",
+        o -> o.season(none, 1), 0);
   }
 }

@@ -126,7 +126,8 @@ final class TermEdges {
     edges.due("neither is wed", x.person(0, 3) + x.person(1, 3), -2);
     edges.due("nobody to part from", x.part(0), -5);
 
-    edges.of(TERMS, "To TAKE UP a THING: it comes on a LIST (0 YEARS), if that has room and hasn't it; to GIVE one UP that is on it;");
+    edges.of(TERMS, "To TAKE UP a THING: it comes on a LIST (0 YEARS), if that has room and hasn't it; "
+        + "to GIVE one UP that is on it;");
     LoatheMatch y = Checks.of("room 2;thing;thing;thing;person age 1 loathes 0;");
     y.years(3);
     edges.due("TAKEN UP", y.takes(0, 1), 2);
@@ -319,6 +320,22 @@ final class TermEdges {
     edges.due("nothing of the elder one", x.undo(1), -3);
     doneNothing();
     manyTimesRound();
+    lastOfAll();
+  }
+
+  /** The last person's last thing is undone, and restored, like all others. */
+  private void lastOfAll() {
+    LoatheMatch x = Checks.of("thing;".repeat(14) + "person age 1;".repeat(7) + "person age 9 loathes 13;");
+    x.years(2);
+    x.image(0);
+    x.years(3);
+    edges.due("YEARS", x.since(7, 13), 5);
+    x.undo(1);
+    edges.due("YEARS, UNDONE", x.since(7, 13), 2);
+    x.years(1);
+    x.restore(0);
+    edges.due("YEARS, restored", x.since(7, 13), 2);
+    edges.due("AGE, restored", x.person(7, 0), 11);
   }
 
   private void doneNothing() {
@@ -411,6 +428,9 @@ final class TermEdges {
     edges.due("the greatest GOOD", even.most(1), 9);
     seats("all alike", most(Checks.of("person age 1;".repeat(5))), 1, 0, 3, 2, -1);
     seats("alone, if there is more GOOD", most(Checks.of("person age 1;person age 2;person age 9;good : apart;")), 2, -1, 0);
+    seats("0 alone", most(Checks.of("person age 1;person age 3;person age 4;good : 9 - apart;")), -1, 2, 1);
+    seats("the last of eight alone", most(Checks.of("person age 1;".repeat(7) + "person age 9;may : apart = 0;")),
+        1, 0, 3, 2, 5, 4, -1, -1);
 
     edges.of(TERMS, "STABLE: no two who MAY would both have more GOOD by one another than as they are (alone: below all): "
         + "the first by the same order.");
@@ -423,6 +443,8 @@ final class TermEdges {
     edges.due("as MOST", chain.most(0), 2);
     LoatheMatch like = Checks.of("person age 2;person age 1;person age 3;good : 9 - apart;");
     seats("as much is not more", stable(like), 1, 0, -1);
+    LoatheMatch across = Checks.of("person age 1;person age 5;person age 2;person age 6;good : 9 - apart;");
+    seats("each with the next but one", stable(across), 2, 3, 0, 1);
     LoatheMatch notMay = Checks.of("person age 1;person age 2;person age 9;may : apart > 5;good : 9 - apart;");
     seats("only who MAY", stable(notMay), -1, 2, 1);
   }
@@ -501,6 +523,14 @@ final class TermEdges {
     LoatheMatch fewer = Checks.of("thing;thing;thing;person age 1;person age 1 loathes 0 1 2;person age 1 loathes 0 1;"
         + "person age 1 loathes 0 1;bar 2;");
     edges.due("the fewest ahead of the least set", fewer.fib(0, 1, 1), 4);
+    edges.due("not what is on the LIST", Checks.of("thing;thing;thing;bar 3;person age 1 loathes 1;person age 1;good : lists;")
+        .fib(0, 1, 1), 5);
+    edges.due("not what is on both LISTS", Checks.of("thing;thing;bar 3;" + "person age 1 loathes 0;".repeat(2) + "good : lists;")
+        .fib(0, 1, 1), 2);
+    edges.due("not what is not told", Checks.of("thing;thing;bar 3;person age 1;person age 1;good : lists;").fib(0, 1, 0), -1);
+    edges.due("not what only insults", Checks.of("thing;thing;bar 1;person age 1;person age 1 is 0 loathes 1;good : rare;")
+        .fib(0, 1, 1), 2);
+    edges.due("the last THING", Checks.of("thing;".repeat(14) + "bar 1;person age 1;person age 1 loathes 13;").fib(0, 1, 1), 8192);
     edges.due("a THING taken up is less RARE", Checks.of("thing;person age 1;person age 1 loathes 0;bar 2;").fib(0, 1, 0), -1);
   }
 
@@ -524,12 +554,14 @@ final class TermEdges {
     edges.due("just it, no less", y.pieced(3, 0), -1);
 
     edges.of(TERMS, "A CHILD of two gets what either LOATHES, less the one that is least RARE of these (of like ones the last).");
-    LoatheMatch z = Checks.of("thing;thing;thing;person age 1 loathes 0 1;person age 1 loathes 2;person age 1 loathes 0;person age 1;");
+    LoatheMatch z = Checks.of("thing;thing;thing;person age 1 loathes 0 1;person age 1 loathes 2;person age 1 loathes 0;"
+        + "person age 1;");
     edges.due("the least RARE", z.child(0, 1), 6);
     edges.due("the least RARE, told the other way", z.child(1, 0), 6);
     LoatheMatch like = Checks.of("thing;thing;thing;person age 1 loathes 0 1;person age 1 loathes 2;");
     edges.due("of like ones the last", like.child(0, 1), 3);
     edges.due("of one none", z.child(1, 3), 0);
+    edges.due("of one, as RARE as can be", Checks.of("thing;person age 1 loathes 0;" + "person age 1;".repeat(7)).child(0, 1), 0);
     edges.due("of none none", Checks.of(TWO).child(0, 1), 0);
 
     edges.of(TERMS, "A HOUSE of n: a set of n PEOPLE who all LOATHE k THINGS or more, all the same.");
@@ -572,9 +604,10 @@ final class TermEdges {
   }
 
   private void seeds() {
-    edges.of(TERMS, "A YEAR by a SEED (x, an int; a DRAW: x becomes 1103515245 x + 12345, it is x >>> 16): so many times (1 to 40): "
-        + "DRAW modulo 4: 0 a YEAR, 1 WED or PARTED by PEOPLE DRAW, DRAW modulo PEOPLE, 2 TAKEN or GIVEN UP by PERSON DRAW modulo "
-        + "PEOPLE THING DRAW modulo THINGS, 3 PERSON DRAW COPIES DRAW (both modulo PEOPLE); as in a TRAY, if it can be.");
+    edges.of(TERMS, "A YEAR by a SEED (x, an int; a DRAW: x becomes 1103515245 x + 12345, it is x >>> 16): "
+        + "so many times (1 to 40): DRAW modulo 4: 0 a YEAR, 1 WED or PARTED by PEOPLE DRAW, DRAW modulo PEOPLE, "
+        + "2 TAKEN or GIVEN UP by PERSON DRAW modulo PEOPLE THING DRAW modulo THINGS, "
+        + "3 PERSON DRAW COPIES DRAW (both modulo PEOPLE); as in a TRAY, if it can be.");
     String text = "room 2;thing wanes 3;thing;thing;person age 1 loathes 0;person age 9;person age 5 loathes 1 2;"
         + "person age 6;person age 7;may : apart < 7;";
     int[] extreme = {0, 1, -1, 12345, -12345, 65535, 65536, 1 << 30, Integer.MAX_VALUE, Integer.MIN_VALUE};
@@ -611,7 +644,8 @@ final class TermEdges {
     edges.due("32 bits", x.write(2, 0, 1L << 31), Integer.MIN_VALUE);
     edges.due("64 bits", x.write(3, 0, 1L << 63), Long.MIN_VALUE);
 
-    edges.of(TERMS, "IMAGES 0 to 1: THE BUREAU and what a call could bring back by UNDOING; nothing can be UNDONE behind (none at first).");
+    edges.of(TERMS, "IMAGES 0 to 1: THE BUREAU and what a call could bring back by UNDOING; "
+        + "nothing can be UNDONE behind (none at first).");
     LoatheMatch y = Checks.of("thing;" + TWO + "bar 7;");
     edges.due("none at first", y.restore(0) + y.restore(1), -10);
     y.takes(0, 0);

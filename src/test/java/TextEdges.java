@@ -144,6 +144,9 @@ final class TextEdges {
     may("not 1 = 2 and 1 = 2", 0);
     may("not [ 1 = 2 and 1 = 2 ]", 1);
     may("not not 1 = 1", 1);
+    may("not 1 = 1", 0);
+    may("not [ 1 = 1 or 1 = 2 ]", 0);
+    may("1 = 1 and 1 < 2 and 2 > 1", 1);
     may("[ 1 = 1 or 1 = 1 ] and 1 = 2", 0);
     may("1 < 1", 0);
     may("1 > 1", 0);
@@ -333,6 +336,8 @@ final class TextEdges {
       edges.text(c + ";", 1, 0);
     }
     edges.text("Bar 1;", 1, 0);
+    edges.text("far 1;", 2, 0);
+    edges.text("bat 1;", 2, 0);
     edges.text("bAr 1;", 2, 0);
     edges.text("barR 1;", 1, 3);
   }

@@ -110,12 +110,16 @@ final class TrayEdges {
     x.write(1, 0, 257);
     edges.due("no number of a deed", x.judge(1, 1), 1);
 
-    edges.promise(42, "-2: no such TRAY; -6; -7.");
+    edges.promise(42, "-2: no such TRAY;");
     for (int bad : new int[] {-1, 4, MIN, MAX}) {
       edges.refused(TrayEdges::start, "write(" + bad + ", 0, 1)", o -> o.write(bad, 0, 1), -2);
     }
+
+    edges.promise(42, "-6;");
     edges.refused(TrayEdges::start, "write(2, 0, 1)", o -> o.write(2, 0, 1), -6);
     edges.refused(TrayEdges::start, "write(3, -1, 1)", o -> o.write(3, -1, 1), -6);
+
+    edges.promise(42, "-7.");
     for (int bad : new int[] {-1, 2, 40, MIN, MAX}) {
       edges.refused(TrayEdges::start, "write(0, " + bad + ", 1)", o -> o.write(0, bad, 1), -7);
     }
@@ -123,7 +127,7 @@ final class TrayEdges {
   }
 
   private void lists() {
-    edges.promise(43, "LISTS of PEOPLE, as bits, come into a TRAY, as many as it has places: how many. -2; -6.");
+    edges.promise(43, "LISTS of PEOPLE, as bits, come into a TRAY, as many as it has places: how many.");
     String text = "thing;".repeat(14) + "person age 1 loathes 0;person age 1 loathes 0;person age 1 loathes 0 13;";
     LoatheMatch x = Checks.of(text);
     x.numbers(0, 2, 0);
@@ -151,15 +155,19 @@ final class TrayEdges {
     nobody.numbers(0, 0, 40);
     edges.due("no PEOPLE", nobody.lists(0), 0);
     edges.due("no deed", x.count(6), 0);
+
+    edges.promise(43, "-2;");
     for (int bad : new int[] {-1, 4, MIN, MAX}) {
       edges.refused(TrayEdges::start, "lists(" + bad + ")", o -> o.lists(bad), -2);
     }
+
+    edges.promise(43, "-6.");
     edges.refused(TrayEdges::start, "lists(2)", o -> o.lists(2), -6);
     edges.refused(TrayEdges::start, "lists(1) of no places", o -> o.lists(1), 0);
   }
 
   private void image() {
-    edges.promise(44, "An IMAGE is made: 0. -2.");
+    edges.promise(44, "An IMAGE is made: 0.");
     LoatheMatch x = start();
     edges.due("image(0), in place of another one", x.image(0), 0);
     edges.due("image(1)", x.image(1), 0);
@@ -170,6 +178,8 @@ final class TrayEdges {
     edges.due("IMAGE 1", x.count(2), 1);
     x.restore(0);
     edges.due("IMAGE 0, the latest", x.count(2), 0);
+
+    edges.promise(44, "-2.");
     for (int bad : new int[] {-1, 2, MIN, MAX}) {
       edges.refused(TrayEdges::start, "image(" + bad + ")", o -> o.image(bad), -2);
     }
@@ -181,7 +191,7 @@ final class TrayEdges {
   }
 
   private void restore() {
-    edges.promise(45, "All that is in an IMAGE is as it was: 0. -2; -5: none was made.");
+    edges.promise(45, "All that is in an IMAGE is as it was: 0.");
     LoatheMatch x = start();
     x.takes(4, 0);
     x.part(0);
@@ -197,9 +207,13 @@ final class TrayEdges {
     edges.due("an IMAGE stays", x.restore(0) + x.count(2), 0);
     Checks.tell(x, "bar 9;");
     edges.due("LINES behind another BUREAU", x.restore(0) + x.count(8), 12);
+
+    edges.promise(45, "-2;");
     for (int bad : new int[] {-1, 2, MIN, MAX}) {
       edges.refused(TrayEdges::start, "restore(" + bad + ")", o -> o.restore(bad), -2);
     }
+
+    edges.promise(45, "-5: none was made.");
     edges.refused(TrayEdges::start, "restore(1)", o -> o.restore(1), -5);
     edges.refused(LoatheMatch::new, "restore(0)", o -> o.restore(0), -5);
   }
