@@ -418,6 +418,10 @@ final class TextEdges {
     Checks.feed(cut, "bar 123;");
     edges.due("the end is where n is", cut.bureau(6), -32);
     edges.due("its place", cut.fault(1), 6);
+    Checks.feed(cut, "thinga");
+    edges.due("a word ends there too", cut.bureau(5), -32);
+    edges.due("its place", cut.fault(1), 5);
+    edges.text(" ".repeat(895) + "thing", 2, 900);
   }
 
   private void outOfBounds() {
